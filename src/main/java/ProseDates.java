@@ -1891,21 +1891,46 @@ public final class ProseDates {
 
     /** The fewest ORDERS without which a story has a CHOICE. */
     private static final class Culprits {
-        // Of each ORDER, by READINGS of x: READINGS of y (bits) by which it holds.
-        private final int[][] holding = new int[MOST_ORDERS][MOST_READINGS];
+        private static final int PLACES = EVENTS * MOST_READINGS;
+
+        // Of two READINGS of two EVENTS, the first EVENT first: ORDERS (bits) that they break.
+        private final int[][] breaks = new int[PLACES][PLACES];
         private final int[] chosen = new int[EVENTS];
         private int fewest = 0;
         private int ways = 0;
 
         void find(Story story) {
-            fewest = (1 << MOST_ORDERS) - 1;
-            ways = 0;
-            for (int order = 0; order < MOST_ORDERS; order++) {
-                for (int i = 0; i < MOST_READINGS; i++) {
-                    holding[order][i] = story.bitsThatHold(story.code(order), i);
+            for (int place = 0; place < PLACES; place++) {
+                for (int k = 0; k < PLACES; k++) {
+                    breaks[place][k] = 0;
                 }
             }
-            search(story, 0, 0);
+            for (int order = 0; order < story.orders(); order++) {
+                heed(story, order);
+            }
+            ways = 0;
+            for (int many = 1; many <= MOST_ORDERS && ways == 0; many++) {
+                // The greatest of the sets of so many: those found are not above it.
+                fewest = (1 << many) - 1 << MOST_ORDERS - many;
+                search(story, 0, 0);
+            }
+        }
+
+        private void heed(Story story, int order) {
+            int code = story.code(order);
+            if (!story.bothAreTold(code)) {
+                return;
+            }
+            int x = code / 10 % 10 * MOST_READINGS;
+            int y = code % 10 * MOST_READINGS;
+            for (int i = 0; i < MOST_READINGS; i++) {
+                int bits = story.bitsThatHold(code, i);
+                for (int k = 0; k < MOST_READINGS; k++) {
+                    if (!hasBit(bits, k)) {
+                        breaks[Math.min(x + i, y + k)][Math.max(x + i, y + k)] |= 1 << order;
+                    }
+                }
+            }
         }
 
         private void search(Story story, int event, int broken) {
@@ -1916,29 +1941,24 @@ public final class ProseDates {
                 arrive(broken);
                 return;
             }
+            chosen[event] = event * MOST_READINGS;
             if (!story.isTold(event)) {
                 search(story, event + 1, broken);
                 return;
             }
             for (int i = 0; i < MOST_READINGS; i++) {
                 if (story.isIn(event, i)) {
-                    chosen[event] = i;
-                    search(story, event + 1, broken | brokenBy(story, event));
+                    chosen[event] = event * MOST_READINGS + i;
+                    search(story, event + 1, broken | brokenWithThoseAhead(event));
                 }
             }
         }
 
-        /** ORDERS (bits) that the READING just chosen of an EVENT breaks with those of the EVENTS ahead of it. */
-        private int brokenBy(Story story, int event) {
+        /** What stands in the place of an EVENT that is not told breaks nothing. */
+        private int brokenWithThoseAhead(int event) {
             int broken = 0;
-            for (int order = 0; order < story.orders() && order < MOST_ORDERS; order++) {
-                int code = story.code(order);
-                int x = code / 10 % 10;
-                int y = code % 10;
-                boolean isDecided = story.bothAreTold(code) && Math.max(x, y) == event;
-                if (isDecided && !hasBit(holding[order][chosen[x]], chosen[y])) {
-                    broken |= 1 << order;
-                }
+            for (int ahead = 0; ahead < event; ahead++) {
+                broken |= breaks[chosen[ahead]][chosen[event]];
             }
             return broken;
         }
