@@ -1,10 +1,10 @@
 import java.util.NoSuchElementException;
 
 /** What the tests share: an object of ProseDates, texts given to it, answers held against those that are due. */
-final class Due {
-    static int wrong = 0;
+class Due {
+    private static int wrong = 0;
 
-    final String about;
+    private final String about;
     ProseDates x = new ProseDates();
 
     Due(String about) {
@@ -65,12 +65,15 @@ final class Due {
         return this;
     }
 
+    /** Each phrase has an object of its own: what one answers behind its 512th call is free. */
     void means(int day, String t, long... want) {
+        x = new ProseDates();
         is("means(" + day + ") '" + t + "'", text(t).x.means(day), want.length / 4);
         row("means(" + day + ") '" + t + "'", want);
     }
 
     void meansNot(int day, String t, int want) {
+        x = new ProseDates();
         x.date(77);
         is("means(" + day + ") '" + t + "'", text(t).x.means(day), want);
         row("means(" + day + ") '" + t + "' leaves the row", 3, 18, 5);

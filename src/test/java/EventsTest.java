@@ -89,6 +89,9 @@ public final class EventsTest {
         d.is("date(10000)", d.x.date(10000), -1);
         d.row("date(10000)", 5, 18, 1);
         for (int day = 0; day <= 9999; day++) {
+            if (day % 100 == 0) {
+                d.x = new ProseDates();
+            }
             int year = d.x.date(day);
             d.is("there and back", d.x.day(year, (int) d.x.row(0), (int) d.x.row(1)), day);
             d.is("the day of the week", d.x.row(2), (day + 5) % 7);

@@ -26,7 +26,7 @@ public final class RandomRunsTest {
     }
 
     public static void main(String[] args) {
-        int runs = args.length > 0 ? Integer.parseInt(args[0]) : 400;
+        int runs = args.length > 0 ? Integer.parseInt(args[0]) : 1500;
         long first = args.length > 1 ? Long.parseLong(args[1]) : 1;
         int wrong = 0;
         for (long seed = first; seed < first + runs; seed++) {
@@ -55,12 +55,14 @@ public final class RandomRunsTest {
 
     private void go() {
         int orders = ORDERS_IN_100[upTo(ORDERS_IN_100.length)];
-        while (calls < 470 && !wrong) {
+        // One step makes up to 130 calls, and what an object answers behind its 512th call is free.
+        while (calls < 380 && !wrong) {
             step(orders);
         }
     }
 
-    private void due(String call, long got, long want) {
+    /** Holds an answer against that which is due, without the ROW. */
+    private void answer(String call, long got, long want) {
         calls++;
         log.append("  ").append(call).append(" = ").append(got);
         if (got != want) {
@@ -68,6 +70,11 @@ public final class RandomRunsTest {
             wrong = true;
         }
         log.append('\n');
+    }
+
+    private void due(String call, long got, long want) {
+        answer(call, got, want);
+        calls += 1 + m.row.size();
         if (x.count(7) != m.row.size()) {
             log.append("  the row has ").append(x.count(7)).append(", due is ").append(m.row.size()).append('\n');
             wrong = true;
@@ -88,7 +95,7 @@ public final class RandomRunsTest {
             for (int k = 0; k < 4; k++) {
                 v = v << 8 | (i + k < t.length() ? t.charAt(i + k) : 0);
             }
-            due("sign(" + v + ")", x.sign(v), m.sign(v));
+            answer("sign(" + v + ")", x.sign(v), m.sign(v));
         }
         due("end(" + t.length() + ") '" + t + "'", x.end(t.length()) ? 1 : 0, m.end(t.length()) ? 1 : 0);
     }
@@ -98,7 +105,7 @@ public final class RandomRunsTest {
         int times = chance(50) ? 22 : upTo(22);
         for (int i = 0; i < times; i++) {
             int v = random.nextInt();
-            due("sign(" + v + ")", x.sign(v), m.sign(v));
+            answer("sign(" + v + ")", x.sign(v), m.sign(v));
         }
         int n = upTo(90) - 3;
         due("end(" + n + ")", x.end(n) ? 1 : 0, m.end(n) ? 1 : 0);
@@ -268,8 +275,9 @@ public final class RandomRunsTest {
     private void undoSome() {
         int times = upTo(10);
         for (int i = 0; i < times; i++) {
-            due("undo()", x.undo(), m.undo());
+            answer("undo()", x.undo(), m.undo());
         }
+        due("count(6)", x.count(6), m.count(6));
     }
 
     private void question() {
@@ -315,7 +323,7 @@ public final class RandomRunsTest {
             }
             default -> {
                 for (int what = -1; what < 10; what++) {
-                    due("count(" + what + ")", x.count(what), m.count(what));
+                    answer("count(" + what + ")", x.count(what), m.count(what));
                 }
             }
         }
@@ -324,6 +332,7 @@ public final class RandomRunsTest {
     private void allReadings(int e) {
         for (int i = -1; i < 7; i++) {
             for (int what = -1; what < 6; what++) {
+                calls++;
                 Long want = m.reading(e, i, what);
                 Long got = null;
                 try {
