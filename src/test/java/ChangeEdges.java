@@ -320,6 +320,17 @@ final class ChangeEdges {
         e.counts(5, 3);
         e.is("one to undo more", e.x.undo(), 5);
         e.counts(4, 5);
+        e.told("fri", "thu", "fri", "thu", "fri", "thu");
+        e.x.order(0, 0, 1);
+        e.x.order(0, 4, 5);
+        e.is("of the first and the last events", e.x.narrows(), 4);
+        int[] in = {2, 1, 3, 3, 2, 1};
+        for (int event = 0; event < 6; event++) {
+            e.is("readings(" + event + ")", e.x.readings(event), 2);
+            e.row("readings(" + event + ")", in[event], in[event]);
+        }
+        e.counts(3, 12);
+        e.counts(4, 8);
     }
 
     private static void narrowsNot() {

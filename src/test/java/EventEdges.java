@@ -177,11 +177,17 @@ final class EventEdges {
         e.row("one DAY", 3000, 3000);
         e.is("all DAYS", e.x.hull(1), 10000);
         e.row("all DAYS", 0, 9999);
+        e.told("jan 1 2000", "may 18 2027", "next week or this mon to this tue", "fri");
+        e.is("DAY 0", e.x.hull(0), 1);
+        e.row("DAY 0", 0, 0);
+        e.is("DAY 9999", e.x.hull(1), 1);
+        e.row("DAY 9999", 9999, 9999);
         e.is("FROM of the last, TO of the first", e.x.hull(2), 14);
         e.row("FROM of the last, TO of the first", 2998, 3011);
         e.is("two", e.x.hull(3), 8);
         e.row("two", 2995, 3002);
-        e.x.order(0, 3, 0);
+        e.tells(4, -1, "today", 1);
+        e.x.order(0, 3, 4);
         e.is("one is LEFT", e.x.hull(3), 1);
         e.row("one is LEFT", 2995, 2995);
         e.x.goes(0);

@@ -210,6 +210,12 @@ final class OrderEdges {
         e.x.rules(0, 2, true);
         e.is("2999 (1), 3001 (3)", e.x.best(), 6);
         e.row("3001", 3, 0, -1, -1, -1, -1);
+        e.told("fri").x.rules(0, 0, true);
+        e.is("the least WORTH", e.x.best(), 1);
+        e.row("2995", 1, -1, -1, -1, -1, -1);
+        e.told("fri", "fri", "fri", "fri", "fri", "fri");
+        e.is("the greatest WORTH", e.x.best(), 18);
+        e.row("3002 each", 0, 0, 0, 0, 0, 0);
     }
 
     private static void left() {

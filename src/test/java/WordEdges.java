@@ -456,6 +456,14 @@ final class WordEdges {
         e.counts(2, 3000);
         e.counts(6, 0);
         e.counts(8, 0);
+        // What was read ahead of it, longer or shorter, leaves nothing behind.
+        e.is("five words", e.text("yesterday to in 9 day").x.means(3000), 1);
+        e.is("three words", e.text("mid this week").x.means(3000), 1);
+        e.row("the middle of the week", 3000, 3002, 1, 3);
+        e.is("six READINGS", e.text("mon or tue or wed").x.means(3000), 6);
+        e.is("no PHRASE", e.text("first mon of 2000 to 5").x.means(3000), -23);
+        e.is("one word", e.text("today").x.means(3000), 1);
+        e.row("today", 3000, 3000, 0, 3);
     }
 
     private static void meansAsTells() {
