@@ -56,7 +56,7 @@ final class Edge extends Due {
         for (int i = 1; i <= PROMISES; i++) {
             d.is("one for promise " + i, QUOTED.containsKey("Promise " + i), true);
         }
-        System.out.println(made + " sentences are held against the class");
+        System.out.println(made + " tests of single sentences");
     }
 
     /** What of the document no test has named: for who adds tests. */
